@@ -847,14 +847,14 @@ public final class CommandBus {
 
         private int lowestPhase(int i) {
             int best = 0;
-            int least = Integer.MAX_VALUE;
+            int least = 0;
             int step = Math.max(1, told(i, PERIOD));
             for (int q = 0; q < step; q++) {
                 int most = 0;
                 for (int f = q; f < CYCLE; f += step) {
                     most = Math.max(most, loads[f]);
                 }
-                if (most < least) {
+                if (q == 0 || most < least) {
                     least = most;
                     best = q;
                 }
