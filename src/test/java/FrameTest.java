@@ -26,8 +26,12 @@ public final class FrameTest {
         }
         Kit.due("frame", 9960, b.look(2));
         Kit.due("40 are too many", -1, b.frame(40));
-        Kit.due("in thought, too", -1, b.would(20, 4));
-        Kit.due("39", 0, b.frame(39));
+        b.frame(19);
+        Kit.due("20 in thought", 0, b.would(20, 0));
+        b.frame(1);
+        Kit.due("20 are too many in thought", -1, b.would(20, 0));
+        Kit.due("20 are too many", -1, b.frame(20));
+        Kit.due("19", 0, b.frame(19));
         Kit.due("frame", 9999, b.look(2));
         Kit.due("no more", -1, b.frame(1));
         Kit.due("no more", -1, b.would(1, 0));
@@ -259,8 +263,11 @@ public final class FrameTest {
         b.set(0, 144);
         b.frame(1);
         Kit.due("it is forgotten", 0, b.look(13));
-        b.frame(3);
-        Kit.due("sent to again, and asked", 72 + 72 - 0, b.look(13) + (b.of(1, 2) == 0 ? 72 : 0));
+        b.frame(2);
+        b.terminal(1, 2, 1);
+        b.frame(1);
+        Kit.due("just time to ask", 144, b.look(13));
+        Kit.due("twice by the line, once asked", 3, b.of(1, 17));
     }
 
     private static void silence() {

@@ -106,8 +106,16 @@ public final class SignalTest {
         Kit.due("less than nothing", 0, after(1 << 31));
         Kit.due("0.004", Float.floatToIntBits(0.004f * 0.25f), after(Float.floatToIntBits(0.004f)));
         Kit.due("0.00399", 0, after(Float.floatToIntBits(0.00399f)));
+        Kit.due("-0.004", Float.floatToIntBits(-0.001f), after(Float.floatToIntBits(-0.004f)));
         Kit.due("-0.00399", 0, after(Float.floatToIntBits(-0.00399f)));
         Kit.due("-5", Float.floatToIntBits(-1.25f), after(Float.floatToIntBits(-5f)));
+        tiny(63 << 7, 2000);
+        tiny(64 << 7, 1500);
+        tiny(1 << 15 | 63 << 7, 2000);
+        tiny(1 << 15 | 64 << 7, 1500);
+        tiny(1 << 15, 2000);
+        tiny(0, 1500);
+        tiny(150 << 7, 2000);
         CommandBus b = new CommandBus();
         b.signal(5, 6, 1, 1);
         b.word(5, 6, 0, 149 << 7 | 127);
@@ -120,6 +128,17 @@ public final class SignalTest {
             b.once(0, 1, 5, 6, 2);
         }
         Kit.due("held", Integer.MIN_VALUE, b.smooth(5, 6, 1));
+    }
+
+    /** What is too strange leaves a mean of 2 as it was; what is next to nothing draws it down. */
+    private static void tiny(int high, int thousandths) {
+        CommandBus b = new CommandBus();
+        b.signal(5, 6, 1, 1);
+        b.word(5, 6, 0, 0x4100);
+        b.once(0, 1, 5, 6, 2);
+        b.word(5, 6, 0, high);
+        b.once(0, 1, 5, 6, 2);
+        Kit.due("mean after " + high, thousandths, b.smooth(5, 6, 1));
     }
 
     private static void random() {

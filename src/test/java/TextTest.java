@@ -103,6 +103,16 @@ public final class TextTest {
         fault("Send 0 1 1 every 1 at 0 on 0;", 1, 0);
         fault("sends 0 1 1 every 1 at 0 on 0;", 1, 0);
         fault("sen 0 1 1 every 1 at 0 on 0;", 1, 0);
+        fault("hand 1 everyZ", 1, 7);
+        fault("hand 1 everyA", 1, 7);
+        fault("hand 1 everya", 1, 7);
+        fault("hand 1 everyz", 1, 7);
+        fault("hand 1 every@", 1, 12);
+        fault("hand 1 every[", 1, 12);
+        fault("hand 1 every`", 1, 12);
+        fault("hand 1 every{", 1, 12);
+        fault("hand 1/", 1, 6);
+        fault("hand 1:", 1, 6);
         fault("  ;", 1, 2);
         fault("send 8 1 1 every 1 at 0 on 0;", 2, 5);
         fault("send 00000 1 1 every 1 at 0 on 0;", 1, 5);

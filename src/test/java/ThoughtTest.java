@@ -37,6 +37,11 @@ public final class ThoughtTest {
         Kit.due("f", -1, b.spread(8, 0));
         Kit.due("what", -1, b.spread(0, -1));
         Kit.due("what", -1, b.spread(0, 5));
+        Kit.table(b, "send 1 1 3 every 1 at 0 on 0;");
+        b.set(0, 112);
+        due(b, 0, 2, 98, 112, -1, 0);
+        b.set(0, 111);
+        due(b, 0, 1, 0, 0, 0, 0);
         b.set(0, 9999);
         b.set(1, 3);
         Kit.table(b, "pass 1 1 2 1 8 every 1 at 0 on 0;".repeat(15));
