@@ -1023,7 +1023,7 @@ public final class CommandBus {
         private final Units units;
         private final Wires wires;
         // The words of the talk that is being laid; behind an answer, those of that answer.
-        private final int[] laid = new int[10];
+        private final int[] laid = new int[9];
         private int bus;
         private boolean held;
         int time;

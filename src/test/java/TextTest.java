@@ -132,6 +132,13 @@ public final class TextTest {
         fault("pass 1 2 1 2 1 every 1 at 0 on 0;", 2, 9);
         fault("pass 1 2 8 2 1 every 1 at 0 on 0;", 2, 9);
         fault("pass 1 2 0 2 1 every 1 at 0 on 0;", 0, -1);
+        fault("pass 1 2 0 0 1 every 1 at 0 on 0;", 2, 11);
+        fault("pass 1 2 0 7 1 every 1 at 0 on 0;", 2, 11);
+        fault("pass 1 0 0 6 1 every 1 at 0 on 0;", 2, 7);
+        fault("pass 1 6 0 6 9 every 1 at 0 on 0;", 2, 13);
+        fault("all 0 8 every 1 at 0 on 0;", 2, 4);
+        fault("all 7 8 every 1 at 0 on 0;", 2, 4);
+        fault("all 6 0 every 1 at 0 on 0;", 2, 6);
         fault("all 1 9 every 1 at 0 on 0;", 2, 6);
         fault("all 1 8 every 1 at 0 on 0;", 0, -1);
         fault("mode 1 0 every 1 at 0 on 0;", 2, 7);
