@@ -20,6 +20,10 @@ final class Kit {
         due(what, want ? 1 : 0, got ? 1 : 0);
     }
 
+    static void none(String what, String got) {
+        due(what + got, true, got.isEmpty());
+    }
+
     static void put(CommandBus bus, String text) {
         byte[] bytes = text.getBytes(StandardCharsets.ISO_8859_1);
         int at = 0;

@@ -2,6 +2,7 @@ import java.lang.reflect.InvocationTargetException;
 import java.lang.reflect.Method;
 import java.util.ArrayList;
 import java.util.Arrays;
+import java.util.Collections;
 import java.util.HashMap;
 import java.util.List;
 import java.util.Map;
@@ -95,8 +96,9 @@ public final class ModelTest {
     }
 
     private void play() {
+        int most = from(60, 400);
         begin();
-        for (int k = 0; k < 400 && !wrong && calls.size() < 480; k++) {
+        for (int k = 0; k < 400 && !wrong && calls.size() < most; k++) {
             int pick = upTo(99);
             if (pick < 18) {
                 tell();
@@ -286,60 +288,45 @@ public final class ModelTest {
         }
     }
 
-    /** Everything that can be asked, at the end of a run, and what the runs have seen at all. */
+    /** At the end of a run, as much as its calls leave room for of all that can be asked. */
     private void count() {
-        calls.clear();
-        for (int what = -1; what < 17; what++) {
-            call("look", what);
-        }
-        for (int t = 0; t < 9; t++) {
-            for (int what = 0; what < 18; what++) {
-                call("of", t, what);
-            }
-            for (int o = 0; o < 5; o++) {
-                call("tally", t, o);
-            }
-            call("waits", t);
-        }
-        calls.clear();
+        List<Object[]> all = new ArrayList<>();
+        put(all, "look", -1, 17, 0, 1);
+        put(all, "of", 0, 9, 0, 18);
+        put(all, "tally", 0, 9, 0, 5);
+        put(all, "waits", 0, 9, 0, 1);
+        put(all, "heard", 0, 65, 0, 4);
+        put(all, "trail", 0, 41, 0, 1);
+        put(all, "log", 0, 61, 0, 5);
+        put(all, "line", 0, model.table.size(), 0, 8);
+        put(all, "spread", 0, 8, 0, 5);
+        put(all, "load", 0, 8, 0, 3);
+        put(all, "fits", 0, 5, 0, 1);
+        put(all, "bus", 0, 2, 0, 6);
         for (int t = 0; t < 8; t++) {
-            calls.clear();
             for (int s = 1; s <= 6; s++) {
-                call("smooth", t, s, 0);
-                call("smooth", t, s, 1);
-                for (int i = 0; i < 8; i++) {
-                    for (int what = 0; what < 3; what++) {
-                        call("at", t, s, i, what);
-                    }
-                }
+                all.add(new Object[] {"smooth", t, s, upTo(1)});
+                all.add(new Object[] {"at", t, s, upTo(7), upTo(2)});
+                all.add(new Object[] {"at", t, s, upTo(1), 2});
             }
         }
-        calls.clear();
-        for (int i = 0; i < 65; i++) {
-            for (int what = 0; what < 4; what++) {
-                call("heard", i, what);
-            }
-            call("trail", i);
-        }
-        calls.clear();
-        for (int i = 0; i < 61; i++) {
-            for (int what = 0; what < 5; what++) {
-                call("log", i, what);
-            }
-        }
-        calls.clear();
         for (int i = 0; i < model.table.size(); i++) {
-            for (int what = 0; what < 8; what++) {
-                call("line", i, what);
-                SEEN.merge("line " + what, call("count", i, what), Integer::sum);
+            for (int o = 0; o < 8; o++) {
+                SEEN.merge("line " + o, model.count(i, o), Integer::sum);
+                all.add(new Object[] {"count", i, o});
             }
         }
-        calls.clear();
-        for (int f = 0; f < 8; f++) {
-            for (int what = 0; what < 5; what++) {
-                call("spread", f, what);
-                call("load", f, what);
-                call("fits", what);
+        Collections.shuffle(all, random);
+        for (Object[] asked : all) {
+            call((String) asked[0], Arrays.copyOfRange(asked, 1, asked.length));
+        }
+    }
+
+    private static void put(List<Object[]> all, String name, int from, int to, int least, int most) {
+        boolean one = FACE.get(name)[0].getParameterCount() == 1;
+        for (int i = from; i < to; i++) {
+            for (int what = least; what < most; what++) {
+                all.add(one ? new Object[] {name, i} : new Object[] {name, i, what});
             }
         }
     }
