@@ -1,3 +1,5 @@
+import java.util.Arrays;
+
 /** Promises 1 to 6, 20, 21, 29, 32: what is told, and what can't be. */
 public final class FaceTest {
     public static void main(String[] args) {
@@ -5,6 +7,7 @@ public final class FaceTest {
         settings();
         terminals();
         words();
+        wordsApart();
         signals();
         noises();
         parities();
@@ -117,6 +120,46 @@ public final class FaceTest {
         Kit.due("65536", false, b.word(0, 1, 0, 65536));
         Kit.due("-1", false, b.word(0, 1, 0, -1));
         Kit.due("still", 65535, b.at(0, 1, 0, 0));
+    }
+
+    /** OUT, IN, GOT of each TERMINAL and SUB, SEND of each SUB: none of these words is another one. */
+    private static void wordsApart() {
+        Twins fresh = new Twins(b -> { });
+        for (int sub = 1; sub <= 6; sub++) {
+            int s = sub;
+            for (int i = 0; i < 8; i++) {
+                int k = i;
+                fresh.touchedNoMoreThan("word of send", b -> b.word(-1, s, k, 77), "send " + (s - 1) + " " + k + " ");
+                for (int t = 0; t < 8; t++) {
+                    int u = t;
+                    String out = "at " + (6 * t + s - 1) + " " + 3 * k + " ";
+                    fresh.touchedNoMoreThan("word", b -> b.word(u, s, k, 77), out);
+                }
+            }
+        }
+        String[] told = {"look", "of", "bus", "tally", "heard", "trail"};
+        for (int t = 0; t < 8; t++) {
+            for (int sub = 1; sub <= 6; sub++) {
+                int u = t;
+                int s = sub;
+                Twins full = new Twins(b -> {
+                    for (int i = 0; i < 8; i++) {
+                        b.word(-1, s, i, 300 + i);
+                        b.word(u, s, i, 400 + i);
+                    }
+                });
+                full.touchedNoMoreThan("send", b -> b.once(0, 0, u, s, 8), words(told, t, sub, 1));
+                full.touchedNoMoreThan("get", b -> b.once(0, 1, u, s, 8), words(told, t, sub, 2));
+            }
+        }
+    }
+
+    private static String[] words(String[] told, int t, int sub, int what) {
+        String[] all = Arrays.copyOf(told, told.length + 8);
+        for (int i = 0; i < 8; i++) {
+            all[told.length + i] = "at " + (6 * t + sub - 1) + " " + (3 * i + what) + " ";
+        }
+        return all;
     }
 
     private static void signals() {

@@ -7,6 +7,7 @@ public final class FractionTest {
         zero();
         boundsOfBaseAndSlope();
         withPower();
+        powerOfEach();
         toldAnew();
         exponents();
         zeroOfAllBits();
@@ -125,6 +126,25 @@ public final class FractionTest {
         for (int f = 0; f < 3; f++) {
             c.frame(1);
             Kit.due("events come ahead of it", Float.floatToIntBits((float) due[f]), bits(c, 0, 1));
+        }
+    }
+
+    /** The POWER of its own TERMINAL counts, of each of the 48. */
+    private static void powerOfEach() {
+        for (int t = 0; t < 8; t++) {
+            CommandBus b = new CommandBus();
+            for (int u = 0; u < 8; u++) {
+                b.terminal(u, 0, u == t ? 0 : 1);
+                for (int s = 1; s <= 6; s++) {
+                    b.signal(u, s, 1000, 0);
+                }
+            }
+            b.frame(1);
+            for (int u = 0; u < 8; u++) {
+                for (int s = 1; s <= 6; s++) {
+                    Kit.due("signal of " + u + " without power of " + t, u == t ? 0 : 8, b.at(u, s, 2, 0));
+                }
+            }
         }
     }
 

@@ -20,6 +20,9 @@ public final class HearTest {
         twoAndEighteenLeaveAll();
         codesWithAWord();
         otherCodes();
+        statusOfEachCode();
+        turnedCommand();
+        wordsLaid();
         shutOfEachBus();
         manyErrors();
         eraseBelow();
@@ -318,6 +321,99 @@ public final class HearTest {
             Kit.due("errors", is ? 0 : 1, b.of(3, 12));
             boolean kept = code == 2 || code == 18;
             Kit.due("command", kept ? 0 : 3 << 11 | (code == 17 ? 0 : ERROR) | code, b.of(3, 14));
+        }
+    }
+
+    /** "SERVICE, BUSY, SYSTEM, FLAG as they are (FLAG not when MUTE), ERROR, ALL, TAKES by what follows": no other bit. */
+    private static void statusOfEachCode() {
+        for (int code = 1; code < 32; code++) {
+            for (int flags = 0; flags < 16; flags++) {
+                CommandBus b = new CommandBus();
+                for (int what = 1; what <= 4; what++) {
+                    b.terminal(3, what, flags >> what - 1 & 1);
+                }
+                b.once(0, 2, 0, 1, 1);
+                int before = b.of(3, 13);
+                b.once(0, 3, 3, 0, code);
+                boolean known = code >= 4 && code <= 8 || code >= 16 && code <= 19 || code <= 2;
+                int due = 3 << 11 | (known ? 0 : ERROR) | ((flags & 1) != 0 ? 8 : 0) | ((flags & 2) != 0 ? 256 : 0)
+                    | ((flags & 4) != 0 ? 4 : 0) | ((flags & 8) != 0 && code != 6 ? 1 : 0);
+                boolean kept = code == 2 || code == 18;
+                boolean more = code == 16 || code >= 18 && code <= 19;
+                Kit.due("status of " + code, kept ? before : due, b.heard(more ? 1 : 0, 2));
+                Kit.due("last status of " + code, kept ? before : due, b.of(3, 13));
+            }
+        }
+        for (int accepts = 0; accepts < 2; accepts++) {
+            CommandBus b = new CommandBus();
+            b.terminal(3, 5, accepts);
+            Kit.table(b, "hand 3 every 1 at 0 on 0;");
+            b.frame(1);
+            Kit.due("status of hand", 3 << 11 | 2 * accepts, b.heard(0, 2));
+            Kit.due("last status", 3 << 11 | 2 * accepts, b.of(3, 13));
+            Kit.due("accepts is told by hand alone", 3 << 11, told(accepts));
+        }
+    }
+
+    private static int told(int accepts) {
+        CommandBus b = new CommandBus();
+        b.terminal(3, 5, accepts);
+        b.once(0, 3, 3, 0, 1);
+        return b.heard(0, 2);
+    }
+
+    /** "A right COMMAND": one that was turned leaves the terminal as it was, whatever it told. */
+    private static void turnedCommand() {
+        Consumer<CommandBus> past = b -> {
+            b.terminal(3, 2, 1);
+            b.terminal(3, 4, 1);
+            b.once(1, 3, 3, 0, 9);
+            b.once(1, 3, 3, 0, 4);
+        };
+        Twins twins = new Twins(past);
+        for (int code = 1; code < 32; code++) {
+            int c = code;
+            twins.touchedNoMoreThan("turned code " + code, b -> {
+                b.noise(0, 1);
+                Kit.due("no answer", 1, b.once(0, 3, 3, 0, c));
+            }, "look", "bus", "tally", "heard", "trail");
+        }
+        for (int kind = 0; kind < 2; kind++) {
+            int k = kind;
+            twins.touchedNoMoreThan("turned kind " + kind, b -> {
+                b.noise(0, 1);
+                Kit.due("no answer", 1, b.once(0, k, 3, 1, 2));
+            }, "look", "bus", "tally", "heard", "trail");
+        }
+        twins.touchedNoMoreThan("turned for all", b -> {
+            b.noise(0, 1);
+            Kit.due("for all", 0, b.once(0, 2, 3, 1, 2));
+        }, "look", "bus", "heard", "trail");
+    }
+
+    /** "COMMAND: bits 15 .. 11 TERMINAL (31: all), 10 (1: it is to talk), 9 .. 5 SUB, 4 .. 0 COUNT": every word, as laid. */
+    private static void wordsLaid() {
+        for (int t = 0; t < 8; t++) {
+            for (int sub = 1; sub <= 6; sub++) {
+                CommandBus b = new CommandBus();
+                b.word(-1, sub, 0, 21);
+                b.word(-1, sub, 1, 22);
+                b.word(t, sub, 0, 31);
+                b.once(0, 0, t, sub, 2);
+                laid(b, t << 11 | sub << 5 | 2, 21, 22, t << 11);
+                b.once(0, 1, t, sub, 1);
+                laid(b, t << 11 | ERROR | sub << 5 | 1, t << 11, 31);
+                b.once(0, 2, t, sub, 1);
+                laid(b, 31 << 11 | sub << 5 | 1, 21);
+                b.once(0, 3, t, sub, 18);
+                laid(b, t << 11 | ERROR | 18, t << 11 | 16, 31 << 11 | sub << 5 | 1);
+            }
+        }
+    }
+
+    private static void laid(CommandBus b, int... words) {
+        for (int i = 0; i < words.length; i++) {
+            Kit.due("word " + i, words[words.length - 1 - i], b.heard(i, 2));
         }
     }
 

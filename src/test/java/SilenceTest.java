@@ -295,5 +295,14 @@ public final class SilenceTest {
         Kit.due("6", 4, b.waits(6));
         Kit.due("none such", -1, b.waits(9));
         Kit.due("none such", -1, b.waits(-1));
+        for (int t = 0; t < 7; t++) {
+            for (int u = t + 1; u < 8; u++) {
+                CommandBus c = new CommandBus();
+                c.terminal(t, 5, 1);
+                c.terminal(u, 5, 1);
+                Kit.due(t + " with " + u, t + 2, c.waits(t));
+                Kit.due(t + " goes ahead of " + u, -1, c.waits(u));
+            }
+        }
     }
 }

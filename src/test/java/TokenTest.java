@@ -27,6 +27,7 @@ public final class TokenTest {
         table.twentyFive(HAND, "hand send get pass all mode", "every at any on power noise");
         events.twentyFive(EVENT, "at", "power noise flag every hand");
         table.firstByPlace();
+        behindAnother();
         Kit.finish();
     }
 
@@ -333,5 +334,53 @@ public final class TokenTest {
         wrong("pass 8 1 8 1 1 every 1 at 0 on 0;", 2, 5);
         wrong("pass 1 1 00001 1 1 every 1 at 0 on 0;", 1, 9);
         wrong("pass 1 9 1 9 9 every 1 at 0 on 0;", 2, 7);
+    }
+
+    /** A text is read the same whatever was read ahead of it, right or wrong. */
+    private static void behindAnother() {
+        String[] tables = {"hand 1 every 2 at 1 on 0;", "hand 1 every 2 any on 1;", "mode 2 17 every 4 any on 0;", "mode 2 1 every 4 at 3 on 1;",
+            "pass 1 2 3 4 8 every 8 any on 1;", "send 1 6 8 every 1 any on 0;", "all 6 1 every 8 at 7 on 0;", "get 7 6 8 every 8 any on 1;", ""};
+        String[] ahead = {"pass 7 6 5 6 8 every 8 any on 1;pass 7 6 5 6 8 every 8 any on 1;", "mode 7 19 every 8 any on 1;",
+            "mode 7 19 every 8 any on 9;", "hand 8 every 8 at 7 on 1;get 7 6 8 every", "@"};
+        String[] events = {"at 9999 noise 1 999;at 9998 babble 7 3;", "at 1 power 8 1;", "at 2 deaf 0 0;", ""};
+        for (String text : tables) {
+            CommandBus plain = new CommandBus();
+            Kit.table(plain, text + text);
+            for (String other : ahead) {
+                CommandBus b = new CommandBus();
+                Kit.events(b, events[0]);
+                Kit.table(b, other);
+                Kit.table(b, text + text);
+                sameLines(text + " behind " + other, plain, b);
+            }
+        }
+        for (String text : events) {
+            CommandBus plain = new CommandBus();
+            Kit.events(plain, text);
+            for (String other : ahead) {
+                CommandBus b = new CommandBus();
+                Kit.table(b, other);
+                Kit.events(b, events[0]);
+                Kit.events(b, text);
+                sameEvents(text + " behind " + other, plain, b);
+            }
+        }
+    }
+
+    private static void sameLines(String name, CommandBus a, CommandBus b) {
+        for (int i = 0; i < 3; i++) {
+            for (int what = 0; what < 8; what++) {
+                Kit.due("line " + i + " " + what + " of " + name, a.line(i, what), b.line(i, what));
+            }
+        }
+        Kit.due("best of " + name, a.fits(1), b.fits(1));
+    }
+
+    private static void sameEvents(String name, CommandBus a, CommandBus b) {
+        for (int i = 0; i < 3; i++) {
+            for (int what = 0; what < 4; what++) {
+                Kit.due("event " + i + " " + what + " of " + name, a.event(i, what), b.event(i, what));
+            }
+        }
     }
 }

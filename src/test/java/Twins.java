@@ -47,7 +47,8 @@ final class Twins {
             for (int k = 0; k < columns; k++) {
                 int row = i;
                 int column = k;
-                NAMES.add(name + " " + i + " " + k);
+                // The blank behind it ends a name, so that one is never the beginning of another.
+                NAMES.add(name + " " + i + " " + k + " ");
                 QUESTIONS.add(b -> asked.of(b, row, column));
             }
         }
@@ -61,13 +62,13 @@ final class Twins {
         before = answers(past);
     }
 
-    /** How many questions are asked behind a future: all now, behind the others the first. */
+    /** How many questions are asked behind a future: all now and behind frames, else the first. */
     private static int asked(int future) {
-        return future == 0 ? QUESTIONS.size() : PART;
+        return future <= 1 ? QUESTIONS.size() : PART;
     }
 
     private static int[] answers(Consumer<CommandBus> past) {
-        int[] all = new int[QUESTIONS.size() + FUTURES.size() * (PART + 1)];
+        int[] all = new int[2 * QUESTIONS.size() + FUTURES.size() * (PART + 1)];
         int at = 0;
         for (int k = 0; k < FUTURES.size(); k++) {
             CommandBus b = null;
@@ -91,7 +92,7 @@ final class Twins {
                 if (q % PART == 0) {
                     all.add("future " + k);
                 }
-                all.add(NAMES.get(q) + (k == 0 ? "" : " behind future " + k));
+                all.add(NAMES.get(q) + (k == 0 ? "" : "behind future " + k));
             }
         }
         return all;
@@ -99,7 +100,7 @@ final class Twins {
 
     /** A call that must leave everything as it was. */
     void untouchedBy(String name, Consumer<CommandBus> call) {
-        Kit.none(name + " changes ", difference(call, "-"));
+        Kit.none(name + " changes ", difference(call));
     }
 
     /** The same of all but fault(). */
@@ -107,23 +108,37 @@ final class Twins {
         Kit.none(name + " changes ", difference(call, "fault"));
     }
 
+    /** A call that may change answers of some names alone. */
+    void touchedNoMoreThan(String name, Consumer<CommandBus> call, String... allowed) {
+        Kit.none(name + " changes ", difference(call, allowed));
+    }
+
     /** A call that must leave something behind: else the questions would see nothing. */
     void touchedBy(String name, Consumer<CommandBus> call) {
         Kit.due(name + " changes something", false, difference(call, "fault").isEmpty());
     }
 
-    /** The first answer, but those of one name, that is another one behind a call; empty if none is. */
-    private String difference(Consumer<CommandBus> call, String but) {
+    /** The first answer, but those of some names, that is another one behind a call; empty if none is. */
+    private String difference(Consumer<CommandBus> call, String... but) {
         int[] after = answers(past.andThen(call));
         List<String> names = null;
         for (int k = 0; k < before.length; k++) {
             if (before[k] != after[k]) {
                 names = names == null ? names() : names;
-                if (!names.get(k).startsWith(but)) {
-                    return names.get(k) + " from " + before[k] + " to " + after[k];
+                if (!isOneOf(names.get(k), but)) {
+                    return names.get(k) + "from " + before[k] + " to " + after[k];
                 }
             }
         }
         return "";
+    }
+
+    private static boolean isOneOf(String name, String... beginnings) {
+        for (String beginning : beginnings) {
+            if (name.startsWith(beginning)) {
+                return true;
+            }
+        }
+        return false;
     }
 }
