@@ -22,6 +22,9 @@ public final class FractionTest {
     }
 
     private static int bits(CommandBus b, int t, int sub) {
+        for (int i = 0; i < 3; i++) {
+            Kit.due("16 bits", true, b.at(t, sub, i, 0) >= 0 && b.at(t, sub, i, 0) <= 65535);
+        }
         return b.at(t, sub, 0, 0) << 16 | b.at(t, sub, 1, 0);
     }
 

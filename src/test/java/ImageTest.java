@@ -10,6 +10,8 @@ public final class ImageTest {
         moreThanOnce();
         takenAnew();
         tapeAndFaultStay();
+        signalsToo();
+        fullTableToo();
         imageOfNothing();
         wouldIsAsFrames();
         nothingOfItStays();
@@ -131,6 +133,57 @@ public final class ImageTest {
         b.image(false);
         Kit.due("the fault as it is", 1, b.fault(0));
         Kit.due("its place as it is", 1, b.fault(1));
+    }
+
+    /** 24 LINES, 24 EVENTS, all counts of each. */
+    private static void fullTableToo() {
+        Twins full = new Twins(b -> {
+            Kit.table(b, "send7 6 8every2any on1;".repeat(3) + "hand1every1at0on0;".repeat(21));
+            Kit.events(b, "at 3 busy 1 1;".repeat(24));
+            b.set(0, 1400);
+            b.frame(5);
+            b.image(true);
+        });
+        full.touchedBy("other lines", b -> Kit.table(b, "mode 3 9 every 2 at 1 on 1;".repeat(18)));
+        full.untouchedBy("other lines, and back", b -> {
+            b.frame(3);
+            Kit.table(b, "mode3 9every2at1on1;".repeat(24));
+            Kit.events(b, "at15babble3 3;".repeat(24));
+            b.frame(9);
+            b.image(false);
+        });
+        full.untouchedBy("would", b -> b.would(20, 1));
+    }
+
+    /** SIGNALS were told: gone back, there are those of the image alone, and their SMOOTH. */
+    private static void signalsToo() {
+        for (int t = 0; t < 8; t++) {
+            for (int s = 1; s <= 6; s++) {
+                CommandBus b = new CommandBus();
+                b.signal(t, s, 8000, 1000);
+                b.frame(1);
+                b.once(0, 1, t, s, 2);
+                b.image(true);
+                b.signal(t, s, -4000, -1000);
+                int other = (t + 1) % 8;
+                b.word(other, s, 2, 55);
+                b.image(false);
+                b.image(true);
+                b.word(other, s, 2, 66);
+                b.signal(other, s, 1000, 0);
+                b.frame(1);
+                Kit.due("drawn", 8, b.at(other, s, 2, 0));
+                Kit.due("got", 0, b.once(0, 1, t, s, 2));
+                b.image(false);
+                Kit.due("smooth as it was", 2000, b.smooth(t, s, 1));
+                b.word(other, s, 2, 77);
+                b.frame(1);
+                Kit.due("base and slope as they were", 72, b.at(t, s, 2, 0));
+                Kit.due("none told of another", 77, b.at(other, s, 2, 0));
+                Kit.due("got", 0, b.once(0, 1, other, s, 2));
+                Kit.due("no smooth without one", 0, b.smooth(other, s, 0));
+            }
+        }
     }
 
     /** An image of a new object is one, too. */

@@ -9,6 +9,8 @@ public final class LoadTest {
         fixedCountWhereverTheyStand();
         fourAndFive();
         bestIsLeast();
+        bestAmongFixed();
+        bestOfTwentyFour();
         spreadOfOne();
         spreadJustAboveMinor();
         spreadOfAll();
@@ -140,6 +142,74 @@ public final class LoadTest {
             Kit.due("best of " + text, least, b.fits(1));
             Kit.due("never more than the greatest", true, b.fits(0) >= b.fits(1));
         }
+    }
+
+    /** LINES with at stay where they are, wherever they stand among those with any. */
+    private static void bestAmongFixed() {
+        for (int run = 0; run < 120; run++) {
+            int free = run % 5;
+            int[] p = new int[8];
+            int[] n = new int[8];
+            int[] q = new int[8];
+            StringBuilder text = new StringBuilder();
+            for (int i = 0; i < 8; i++) {
+                int seed = (run * 37 + i * 101 + run * i * 13) % 997;
+                p[i] = 1 << seed % 4;
+                n[i] = 1 + seed / 4 % 8;
+                // Which four of the eight are free goes round with the runs.
+                q[i] = (i * 3 + run) % 8 < free ? -1 : seed / 7 % p[i];
+                text.append("all1 ").append(n[i]).append("every").append(p[i]);
+                text.append(q[i] < 0 ? "any " : "at" + q[i]).append("on0;");
+            }
+            CommandBus b = new CommandBus();
+            Kit.due("told", 8, Kit.table(b, text.toString()));
+            Kit.due("best of " + text, least(p, n, q, 0, new int[8]), b.fits(1));
+            Kit.due("as it was", true, b.fits(0) >= b.fits(1));
+        }
+    }
+
+    private static int least(int[] p, int[] n, int[] q, int i, int[] loads) {
+        if (i == p.length) {
+            int most = 0;
+            for (int load : loads) {
+                most = Math.max(most, load);
+            }
+            return most;
+        }
+        int least = Integer.MAX_VALUE;
+        for (int phase = 0; phase < p[i]; phase++) {
+            if (q[i] < 0 || q[i] == phase) {
+                int[] more = loads.clone();
+                for (int f = phase; f < 8; f += p[i]) {
+                    more[f] += 24 + 20 * n[i];
+                }
+                least = Math.min(least, least(p, n, q, i + 1, more));
+            }
+        }
+        return least;
+    }
+
+    /** A full TABLE: those with any stand at its end, at its beginning, in its midst, or nowhere. */
+    private static void bestOfTwentyFour() {
+        String fixed = "hand1every1at0on0;";
+        String free = "hand1every8any on0;";
+        for (int ahead = 0; ahead <= 20; ahead += 4) {
+            CommandBus b = new CommandBus();
+            Kit.due("24", 24, Kit.table(b, fixed.repeat(ahead) + free.repeat(4) + fixed.repeat(20 - ahead)));
+            Kit.due("best", 21 * 52, b.fits(1));
+            Kit.due("greatest", 21 * 52, b.fits(0));
+            Kit.table(b, fixed.repeat(ahead) + "hand1every2any on0;".repeat(4) + fixed.repeat(20 - ahead));
+            Kit.due("best", 22 * 52, b.fits(1));
+        }
+        CommandBus b = new CommandBus();
+        Kit.table(b, fixed.repeat(24));
+        Kit.due("none free", 24 * 52, b.fits(1));
+        Kit.table(b, fixed.repeat(19) + free.repeat(5));
+        Kit.due("five free", -1, b.fits(1));
+        // The first goes where it is in the way of those behind it, so BEST is less than what PHASES come to.
+        Kit.table(b, fixed.repeat(20) + "mode1 1every8any on0;mode1 1every4any on0;mode1 1every2any on0;mode1 16every1any on0;");
+        Kit.due("phases", 20 * 52 + 72 + 52 * 2, b.fits(0));
+        Kit.due("best", 20 * 52 + 72 + 52, b.fits(1));
     }
 
     /** One LINE, every RETRIES: TIME or QUIET, again and again. */

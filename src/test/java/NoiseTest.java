@@ -10,6 +10,8 @@ public final class NoiseTest {
         answersToo();
         allAreLaid();
         held();
+        heldKeepsNothing();
+        anyOfThese();
         heldAndNoise();
         heldByWhom();
         collisions();
@@ -167,6 +169,49 @@ public final class NoiseTest {
                 Kit.due("all", isHeld ? 2 : 0, b.once(bus, 2, 1, 1, 2));
                 Kit.due("who babbles answers as ever", isHeld ? 1 : 0, b.once(bus, 3, 3, 0, 1));
                 Kit.due("collisions", isHeld ? 3 : 0, b.look(6));
+            }
+        }
+    }
+
+    /** On a HELD BUS the COMMAND itself is turned: nothing comes to any TERMINAL. */
+    private static void heldKeepsNothing() {
+        Twins twins = new Twins(b -> {
+            b.terminal(3, 8, 0);
+            b.once(0, 0, 3, 1, 1);
+            b.terminal(3, 8, 126);
+            b.word(-1, 1, 0, 5);
+            b.terminal(6, 7, 1);
+        });
+        String[] told = {"look", "bus", "tally", "heard", "trail"};
+        for (int n = 1; n <= 8; n++) {
+            int words = n;
+            twins.touchedNoMoreThan("send, held", b -> b.once(0, 0, 3, 1, words), told);
+            twins.touchedNoMoreThan("get, held", b -> b.once(0, 1, 3, 1, words), told);
+            twins.touchedNoMoreThan("all, held", b -> b.once(0, 2, 3, 1, words), told);
+        }
+        for (int code = 1; code < 32; code++) {
+            int c = code;
+            twins.touchedNoMoreThan("code " + code + ", held", b -> b.once(0, 3, 3, 0, c), told);
+        }
+    }
+
+    /** "is any of these turned: ERROR kept"; the COMMAND among them: it was no right one. */
+    private static void anyOfThese() {
+        int error = 3 << 11 | 1 << 10;
+        for (int kind = 0; kind <= 3; kind++) {
+            for (int set = 0; set < (kind == 1 ? 2 : kind == 3 ? 4 : 16); set++) {
+                CommandBus b = new CommandBus();
+                for (int k = 0; k < 4; k++) {
+                    if ((set >> k & 1) != 0) {
+                        b.noise(0, k + 1);
+                    }
+                }
+                Kit.due("outcome", kind == 2 || set == 0 ? 0 : 1, b.once(0, kind, 3, 1, kind == 3 ? 17 : 3));
+                boolean right = (set & 1) == 0;
+                Kit.due("kind " + kind + " of " + set, right && set != 0 ? error : 3 << 11 | (right && kind == 2 ? 16 : 0), b.of(3, 13));
+                Kit.due("errors", right && set != 0 ? 1 : 0, b.of(3, 12));
+                Kit.due("a command", right, b.of(3, 14) != 0);
+                Kit.due("turned", Integer.bitCount(set), b.bus(0, 1));
             }
         }
     }

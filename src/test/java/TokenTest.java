@@ -19,6 +19,11 @@ public final class TokenTest {
         events.numbersOfEvents();
         table.digits();
         events.digitsOfEvents();
+        table.fiveDigits("send 1 1 1 every 2 at 0 on 0 ;");
+        table.fiveDigits("pass 1 6 2 6 8 every 8 any on 1 ;");
+        table.fiveDigits("mode 7 31 every 4 any on 1 ;");
+        events.fiveDigits("at 9999 noise 1 999 ;");
+        events.fiveDigits("at 0 deaf 7 3 ;");
         table.words();
         events.wordsOfEvents();
         table.signs();
@@ -166,6 +171,28 @@ public final class TokenTest {
         wrong("send 11 1 every 1 at 0 on 0;", 2, 5);
         wrong("send 1 11 every 1 at 0 on 0;", 2, 7);
         wrong("send 01 1 every 1 at 0 on 0;", 1, 10);
+    }
+
+    /** What is no NUMBER is no token of another kind either: not the end, not a word, not ";". */
+    private void fiveDigits(String line) {
+        String[] tokens = line.split(" ");
+        for (int k = 0; k < tokens.length; k++) {
+            for (int v = 0; v <= 20; v++) {
+                String five = "000" + (v < 10 ? "0" : "") + v;
+                StringBuilder text = new StringBuilder();
+                int place = 0;
+                for (int i = 0; i < tokens.length; i++) {
+                    place = i == k ? text.length() : place;
+                    text.append(i == k ? five : tokens[i]).append(' ');
+                }
+                wrong(text.toString(), 1, place);
+            }
+        }
+        fine(line);
+        wrong("00000", 1, 0);
+        wrong(line + " 00000", 1, line.length() + 1);
+        wrong(line + "12345", 1, line.length());
+        wrong(line + "5", 1, line.length());
     }
 
     private void digitsOfEvents() {

@@ -5,6 +5,7 @@ public final class WantedTest {
     public static void main(String[] args) {
         eachOne();
         byEachKind();
+        ofEachSub();
         byEachCode();
         byEachOutcome();
         bothOfPass();
@@ -63,6 +64,34 @@ public final class WantedTest {
         Kit.due("hand", 1, asked("hand 1", nothing));
         Kit.due("of another one", 0, asked("send 2 1 1", nothing));
         Kit.due("without service", 0, asked("send 1 1 1", b -> b.terminal(1, 2, 0)));
+    }
+
+    /** It is the TERMINAL that answered who is wanted, whatever SUB and n. */
+    private static void ofEachSub() {
+        for (int t = 0; t < 8; t++) {
+            for (int sub = 1; sub <= 6; sub++) {
+                for (int n = 1; n <= 8; n += 7) {
+                    int u = (t + 5) % 8;
+                    int r = sub % 6 + 1;
+                    onlyOne(t, "send " + t + " " + sub + " " + n);
+                    onlyOne(t, "get " + t + " " + sub + " " + n);
+                    onlyOne(t, "pass " + t + " " + sub + " " + u + " " + r + " " + n);
+                    onlyOne(t, "pass " + u + " " + r + " " + t + " " + sub + " " + n);
+                }
+            }
+            onlyOne(t, "hand " + t);
+            onlyOne(t, "mode " + t + " 19");
+        }
+    }
+
+    private static void onlyOne(int t, String line) {
+        CommandBus b = new CommandBus();
+        b.terminal(t, 2, 1);
+        Kit.table(b, line + " every 1 at 0 on 1;");
+        b.frame(1);
+        Kit.due("one is asked by " + line, 1, b.bus(0, 3));
+        Kit.due("it is " + t, 1, b.of(t, 17));
+        Kit.due("command", t << 11 | 1 << 10 | 16, b.heard(2, 2));
     }
 
     /** "MODE but 2, 16, 18" */
