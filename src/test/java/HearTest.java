@@ -14,6 +14,7 @@ public final class HearTest {
         firstNOfPass();
         firstNOfAll();
         nothingWhenRefused();
+        turnedAheadOfAllElse();
         legalOfEachSub();
         timesOfTries();
         errorAndAllAreMadeNone();
@@ -201,6 +202,35 @@ public final class HearTest {
         b.once(0, 2, 0, 2, 3);
         Kit.due("turned, and busy", 3 << 11 | ERROR | 8, b.of(3, 13));
         Kit.due("errors", 2, b.of(3, 12));
+    }
+
+    /** "is any of these turned: ERROR kept, NO ANSWER. Else ..": not LEGAL or BUSY, too, it answers nothing. */
+    private static void turnedAheadOfAllElse() {
+        for (int set = 0; set < 4; set++) {
+            int busy = set & 1;
+            CommandBus b = filled();
+            b.frame(60);
+            b.terminal(3, 1, busy);
+            b.terminal(3, 8, set < 2 ? 126 : 0);
+            int due = 3 << 11 | ERROR | 8 * busy;
+            b.noise(0, 2);
+            Kit.due("send", 1, b.once(0, 0, 3, 2, 3));
+            Kit.due("status", due, b.of(3, 13));
+            Kit.due("errors", 1, b.of(3, 12));
+            firstN(b, 3, 2, 1, 0, 0);
+            b.noise(0, 2);
+            Kit.due("17", 1, b.once(0, 3, 3, 0, 17));
+            Kit.due("status", due, b.of(3, 13));
+            Kit.due("errors", 2, b.of(3, 12));
+            Kit.due("no sync", 0, b.of(3, 15));
+            b.noise(0, 2);
+            Kit.due("all", 0, b.once(0, 2, 0, 2, 3));
+            Kit.due("status", due, b.of(3, 13));
+            Kit.due("errors", 3, b.of(3, 12));
+            Kit.due("no answer of it", 3, b.bus(0, 2));
+            Kit.due("17 that is right", busy == 1 ? 4 : 0, b.once(0, 3, 3, 0, 17));
+            Kit.due("sync, busy or not", 60, b.of(3, 15));
+        }
     }
 
     /** "LEGAL (a set of SUBS 1 .. 6, bits 1 .. 6)" */

@@ -14,6 +14,7 @@ public final class ImageTest {
         fullTableToo();
         imageOfNothing();
         wouldIsAsFrames();
+        wouldOfEachOutcome();
         nothingOfItStays();
         wouldLeavesTheImage();
         askingChangesNothing();
@@ -216,6 +217,30 @@ public final class ImageTest {
                 Kit.due("as frames at once", good, c.frame(n));
             }
         }
+    }
+
+    /** "0 LINES due with OUTCOME 0, 1 with others": each of 1 to 7 is one of the others. */
+    private static void wouldOfEachOutcome() {
+        thought("mode 1 1", b -> { }, 0);
+        thought("mode 1 1", b -> b.terminal(1, 0, 0), 1);
+        thought("mode 1 1", b -> b.noise(0, 2), 2);
+        thought("mode 1 3", b -> { }, 3);
+        thought("mode 1 1", b -> b.terminal(1, 1, 1), 4);
+        thought("hand 1", b -> { }, 5);
+        thought("pass 1 1 2 1 8", b -> b.set(0, 200), 6);
+        thought("hand 8", b -> { }, 7);
+    }
+
+    private static void thought(String line, Consumer<CommandBus> told, int outcome) {
+        CommandBus b = new CommandBus();
+        b.set(1, 0);
+        told.accept(b);
+        Kit.table(b, line + " every 2 at 0 on 0;");
+        Kit.due("good of " + line, outcome == 0 ? 1 : 0, b.would(2, 0));
+        Kit.due("others of " + line, outcome == 0 ? 0 : 1, b.would(2, 1));
+        b.frame(1);
+        Kit.due("outcome of " + line, outcome, b.line(0, 7));
+        Kit.due("none is due", 0, b.would(1, 0) + b.would(1, 1));
     }
 
     private static CommandBus made(int scene) {

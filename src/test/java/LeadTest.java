@@ -6,6 +6,7 @@ public final class LeadTest {
         spreadOfEach();
         bitsOfFirst();
         heirOfSeveral();
+        heirOnOneBus();
         Kit.finish();
     }
 
@@ -148,6 +149,24 @@ public final class LeadTest {
             Kit.due("the latest of " + set, due, b.look(3));
             Kit.due("behind this frame", 8, b.heard(2, 1));
             Kit.due("one move", set == 0 ? 0 : 1, b.look(14));
+        }
+    }
+
+    /** TAKES, "if it ACCEPTS": one that is DEAF or SHUT on the other BUS takes control by hand all the same. */
+    private static void heirOnOneBus() {
+        for (int bus = 0; bus < 2; bus++) {
+            for (int t = 0; t < 8; t++) {
+                CommandBus b = new CommandBus();
+                b.terminal(t, 5, 1);
+                b.terminal(t, 6, 2 >> bus);
+                b.once(bus, 3, t, 0, 4);
+                b.terminal(t, 8, 0);
+                Kit.table(b, "hand " + t + " every 1 at 0 on " + bus + ";");
+                Kit.due("hand to " + t, 1, b.frame(1));
+                Kit.due("one try", 1, b.log(0, 2));
+                Kit.due("controls", t, b.look(3));
+                Kit.due("shut there still", 2 >> bus, b.of(t, 10));
+            }
         }
     }
 }

@@ -319,13 +319,17 @@ public final class LoadTest {
         }
     }
 
-    /** "(nobody wanted)" */
+    /** "(nobody wanted)"; whether each TRY goes through is not asked of who has POWER, hears or babbles as now. */
     private static void spreadNobodyWanted() {
         CommandBus b = new CommandBus();
         b.terminal(1, 2, 1);
         b.terminal(1, 0, 0);
         b.terminal(7, 7, 3);
         Kit.table(b, "mode 1 1 every 1 at 0 on 0;");
+        spread(b, 0, 3, 52, 90, -1, 3);
+        b.terminal(8, 0, 0);
+        spread(b, 0, 3, 52, 90, -1, 3);
+        b.frame(3);
         spread(b, 0, 3, 52, 90, -1, 3);
     }
 

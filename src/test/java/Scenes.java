@@ -37,6 +37,55 @@ final class Scenes {
         b.word(-1, 6, 7, 77);
     }
 
+    /** Terminals of which nothing is as at first: all that could be lost is there to be lost. */
+    static void worn(CommandBus b) {
+        Kit.table(b, "send 7 1 2 every 4 at 3 on 1;hand 3 every 8 at 0 on 0;hand 8 every 8 at 1 on 0;"
+            + "mode 5 19 every 1 at 0 on 0;get 6 2 2 every 2 any on 0;");
+        Kit.events(b, "at 98 flag 2 0;at 99 busy 1 1;");
+        for (int s = 1; s <= 6; s++) {
+            b.word(-1, s, 0, 700 + s);
+            b.word(-1, s, 7, 710 + s);
+        }
+        for (int t = 0; t < 8; t++) {
+            b.signal(t, 2, 5000 + t, 10);
+            b.word(t, 4, 3, 800 + t);
+        }
+        b.terminal(3, 5, 1);
+        b.frame(2);
+        b.terminal(3, 5, 0);
+        for (int t = 0; t < 8; t++) {
+            wear(b, t);
+        }
+        b.terminal(6, 5, 1);
+        b.terminal(7, 5, 1);
+        b.noise(0, 300);
+        b.noise(1, 300);
+        b.frame(1);
+    }
+
+    private static void wear(CommandBus b, int t) {
+        b.once(0, 0, t, 1, 1);
+        b.once(0, 1, t, 2, 3);
+        b.once(0, 3, t, 0, 17);
+        b.terminal(t, 9, 100 + t);
+        b.terminal(t, 2, 1);
+        b.once(0, 3, t, 0, 16);
+        b.terminal(t, 2, 1);
+        b.terminal(t, 3, 1);
+        b.terminal(t, 4, 1);
+        b.once(0, 3, t, 0, 6);
+        b.once(t % 2, 3, t, 0, 4);
+        b.once(t % 2, 3, t, 0, 9);
+    }
+
+    /** The same behind three silent frames, and the controller has power again. */
+    static void wornAndSilent(CommandBus b) {
+        worn(b);
+        b.terminal(8, 0, 0);
+        b.frame(3);
+        b.terminal(8, 0, 1);
+    }
+
     /** A controller that is silent for three frames; terminal 3 would wait two more. */
     static void silent(CommandBus b) {
         Kit.table(b, LINES);

@@ -93,10 +93,14 @@ public final class SilenceTest {
             Kit.due("accepts not", 8, b.look(3));
             Kit.due("silence goes on", 20, b.look(5));
             b = silentFor(t);
+            b.terminal(8, 0, 1);
+            b.once(0, 3, t, 0, 4);
+            b.once(1, 3, t, 0, 4);
+            b.terminal(8, 0, 0);
+            Kit.due("shut on both", 3, b.of(t, 10));
             b.terminal(t, 1, 1);
             b.terminal(t, 7, 3);
             b.terminal(t, 8, 0);
-            b.once(0, 3, t, 0, 4);
             b.frame(t + 2);
             Kit.due("all else does not matter", t, b.look(3));
         }

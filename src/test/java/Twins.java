@@ -67,6 +67,11 @@ final class Twins {
         return future <= 1 ? QUESTIONS.size() : PART;
     }
 
+    /** How many of all answers are asked at once, behind no future. */
+    private static int now() {
+        return QUESTIONS.size() + (QUESTIONS.size() + PART - 1) / PART;
+    }
+
     private static int[] answers(Consumer<CommandBus> past) {
         int[] all = new int[2 * QUESTIONS.size() + FUTURES.size() * (PART + 1)];
         int at = 0;
@@ -113,6 +118,11 @@ final class Twins {
         Kit.none(name + " changes ", difference(call, allowed));
     }
 
+    /** The same, asked at once alone: what comes of it later may be anything. */
+    void touchesAtOnce(String name, Consumer<CommandBus> call, String... allowed) {
+        Kit.none(name + " changes ", difference(call, now(), allowed));
+    }
+
     /** A call that must leave something behind: else the questions would see nothing. */
     void touchedBy(String name, Consumer<CommandBus> call) {
         Kit.due(name + " changes something", false, difference(call, "fault").isEmpty());
@@ -120,9 +130,13 @@ final class Twins {
 
     /** The first answer, but those of some names, that is another one behind a call; empty if none is. */
     private String difference(Consumer<CommandBus> call, String... but) {
+        return difference(call, before.length, but);
+    }
+
+    private String difference(Consumer<CommandBus> call, int seen, String[] but) {
         int[] after = answers(past.andThen(call));
         List<String> names = null;
-        for (int k = 0; k < before.length; k++) {
+        for (int k = 0; k < seen; k++) {
             if (before[k] != after[k]) {
                 names = names == null ? names() : names;
                 if (!isOneOf(names.get(k), but)) {
